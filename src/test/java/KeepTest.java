@@ -111,6 +111,7 @@ public final class KeepTest {
         due("19: j 7", x.worth(0, 0, 1, 7), BAD_WORTH);
         due("19: j -1", x.worth(0, 0, 1, -1), BAD_WORTH);
         due("19: k 3 of two", x.worth(0, 0, 3, 1), NO_WORTH);
+        due("19: k 2 of two", x.worth(1, 0, 2, 1), 0);
         due("19: status", x.status(0) * 10 + x.status(1), 81);
         due("19: nothing changes", x.digest(), before);
         x.muster(4);
@@ -151,6 +152,7 @@ public final class KeepTest {
         x.muster(2);
         x.man(1, 1, 1, 1, 1, 1);
         due("20: daylight for the river", x.best(0, 0), 0);
+        due("20: k 1 of one", x.best(1, 0), 0);
         due("20: k 2 of one", x.best(2, 0), -1);
         x.muster(40);
         x.man(1, 0, 0, 0, 0, 0);
@@ -166,6 +168,15 @@ public final class KeepTest {
             }
         }
         due("20: of most worth", x.best(1, 1), best);
+        RiverChoice y = new RiverChoice();
+        y.man(1, 1, 0, 0, 0, 1);
+        y.man(1, 1, 0, 1, 1, 1);
+        long[] worths = {y.worth(0, 0, 1, 1), y.worth(0, 1, 1, 1), y.worth(0, 2, 1, 1), y.worth(1, 0, 1, 1), y.worth(1, 1, 1, 1), y.worth(1, 2, 1, 1)};
+        int first = 0;
+        for (int i = 1; i < 6; i++) {
+            first = worths[i] > worths[first] ? i : first;
+        }
+        due("20: of most worth, of two", y.best(1, 1), first / 3 * 10 + first % 3);
         due("20: which is a shout or a night of the third", best / 10, 2);
         due("20: status", x.status(0) * 10 + x.status(1), 40);
     }
@@ -275,6 +286,12 @@ public final class KeepTest {
         due("23: home(-1)", x.home(-1), -2);
         due("23: status", x.status(0), 2);
         due("23: none are sent", x.count(0), 6);
+        x.muster(40);
+        x.man(1, 0, 0, 0, 0, 0);
+        x.man(1, 0, 0, 0, 0, 0);
+        x.pair(0, 1);
+        due("23: side by side, home(60)", x.home(60), 0);
+        due("23: side by side, home(61)", x.home(61), 1);
         due("23: no men", new RiverChoice().home(120), 0);
     }
 

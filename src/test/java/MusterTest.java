@@ -208,6 +208,7 @@ public final class MusterTest {
         due("9: weight(1, 0)", x.weight(1, 0), 9);
         due("9: signs", x.of(0, 0) * 100 + x.of(1, 0), 3105);
         due("9: once more", x.read(), 7);
+        due("9: who knows", x.of(0, 2) * 10 + x.of(1, 2), 1);
         due("9: muster alone", Due.read(x, "muster 0;"), 1);
         due("9: no men", x.count(0), 0);
         due("9: no daylight", x.count(1), 0);
@@ -226,12 +227,12 @@ public final class MusterTest {
             "muster 100;", "muster 5 6;", "muster 5;;", "muster 5; muster 5;", "muster 5;word;", "muster 5;word 0",
             "muster 5;pair 0 1 2;", "muster 5;man 1 2 3 4 5;", "muster 5;words 0;", "muster 5;word 000;", "muster 5;Word 0;",
             "muster 5;word #;", "muster 5;word -1;", "muster 5;\n", "muster 5;worn man;", "muster 5;wor", "mustermuster 5;",
-            "muster 5word 0;", " \u007fmuster 5;"};
+            "muster 5word 0;", " \u007fmuster 5;", "muster 5;manz 1", "muster 5;aman 1"};
         int[] faults = {0, 3, 0, 0, 0, 0, 6, 8, 9, 7,
             7, 9, 9, 10, 13, 15,
             18, 22, 9, 14, 9,
             14, 14, 9, 14, 9, 0,
-            8, 1};
+            8, 1, 9, 9};
         due("9: as many faults as texts", faults.length, texts.length);
         for (int i = 0; i < texts.length; i++) {
             Due.type(x, texts[i]);

@@ -80,7 +80,11 @@ public final class StateTest {
         x.test(2, 2, true);
         due("32: from(1)", x.from(1), 1);
         due("32: all as it was", x.digest(), before);
-        due("32: tests may be undone", x.undo() + x.undo(), 2);
+        due("32: a test may be undone", x.undo(), 1);
+        due("32: daylight ahead of it", x.count(1), 35);
+        due("32: who knew ahead of it", x.count(3), 1);
+        due("32: another may be undone", x.undo(), 1);
+        due("32: daylight ahead of that", x.count(1), 40);
         due("32: no more of them", x.undo(), -3);
         due("32: as ahead of both", x.weight(0, 0), 1);
         due("32: from(1) again", x.from(1), 1);

@@ -116,6 +116,15 @@ public final class TestsTest {
         x.test(0, 1, true);
         // 43945, 72, 4375000 once parted by 2, halved three times
         weights("10: seven nights", x, 0, 5493, 0, 9, 0, 546875, 0);
+        x.muster(99);
+        x.man(1, 0, 1, 0, 0, 0);
+        for (int i = 0; i < 5; i++) {
+            x.test(0, 1, false);
+        }
+        weights("10: 7 and 10 to the fifth", x, 0, 16807, 0, 100000, 0, 0, 0);
+        x.test(0, 1, false);
+        // 117649 and 1000000, which is one too many
+        weights("10: 7 and 10 to the sixth, halved", x, 0, 58824, 0, 500000, 0, 0, 0);
     }
 
     private static void undo() {
@@ -237,6 +246,7 @@ public final class TestsTest {
         x.man(0, 3, 1, 3, 0, 0);
         x.man(0, 0, 0, 0, 0, 1);
         x.man(1, 2, 3, 4, 5, 4);
+        x.man(2, 2, 0, 0, 0, 0);
         x.worn(0, 17);
         x.pair(0, 2);
         x.pair(0, 1);
@@ -249,7 +259,8 @@ public final class TestsTest {
         due("16: likeliest, the first", x.of(0, 3), 1);
         due("16: likeliest, a spy", x.of(1, 3), 5);
         due("16: likeliest, a veteran", x.of(2, 3), 4);
-        due("16: of(3, 0)", x.of(3, 0), -2);
+        due("16: likeliest, plain", x.of(3, 3), 0);
+        due("16: of(4, 0)", x.of(4, 0), -2);
         due("16: of(-1, 0)", x.of(-1, 0), -2);
         due("16: of(0, 4)", x.of(0, 4), -2);
         due("16: of(0, -1)", x.of(0, -1), -2);
