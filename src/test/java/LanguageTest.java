@@ -1,6 +1,8 @@
 import java.io.IOException;
+import java.lang.reflect.Constructor;
 import java.lang.reflect.Field;
 import java.lang.reflect.Member;
+import java.lang.reflect.Method;
 import java.lang.reflect.Modifier;
 import java.nio.charset.StandardCharsets;
 import java.nio.file.Files;
@@ -24,6 +26,7 @@ public final class LanguageTest {
         calls(source);
         methodLengths(source);
         face();
+        faceOfTheDocument();
         for (Class<?> c : RiverChoice.class.getDeclaredClasses()) {
             nested(c);
         }
@@ -88,7 +91,7 @@ public final class LanguageTest {
         int methods = 0;
         for (Member m : members) {
             if (Modifier.isPublic(m.getModifiers())) {
-                methods += m instanceof java.lang.reflect.Method ? 1 : 0;
+                methods += m instanceof Method ? 1 : 0;
                 open.add(m.getName());
             } else if (!Modifier.isPrivate(m.getModifiers())) {
                 tell("neither public nor private: " + m.getName());
@@ -109,6 +112,43 @@ public final class LanguageTest {
         if (kept > 20) {
             tell("too many fields: " + kept);
         }
+    }
+
+    /** Each line of the document's code block is a member of the class, by its types and its name. */
+    private static void faceOfTheDocument() throws IOException {
+        String document = Files.readString(Path.of("../shared/DOC.md"), StandardCharsets.UTF_8);
+        Matcher lines = Pattern.compile("(?m)^    public (?!static)(?:(\\w+) )?(\\w+)\\((.*)\\);$").matcher(document);
+        int calls = 0;
+        while (lines.find()) {
+            calls++;
+            String types = lines.group(3).replaceAll(" \\w+(?=,|$)", "");
+            boolean made = lines.group(1) == null;
+            boolean stands = false;
+            for (Constructor<?> c : RiverChoice.class.getConstructors()) {
+                stands |= made && c.getParameterCount() == 0 && types.isEmpty();
+            }
+            for (Method m : RiverChoice.class.getMethods()) {
+                stands |= !made && m.getName().equals(lines.group(2)) && m.getReturnType().getName().equals(lines.group(1))
+                    && types.equals(names(m.getParameterTypes())) && !Modifier.isStatic(m.getModifiers());
+            }
+            if (!stands) {
+                tell("the class lacks " + lines.group());
+            }
+        }
+        if (calls != 35) {
+            tell("calls in the document's code block: " + calls);
+        }
+        if (!Modifier.isFinal(RiverChoice.class.getModifiers()) || !Modifier.isPublic(RiverChoice.class.getModifiers())) {
+            tell("the class is not public and final");
+        }
+    }
+
+    private static String names(Class<?>[] types) {
+        StringBuilder names = new StringBuilder();
+        for (Class<?> type : types) {
+            names.append(names.length() == 0 ? "" : ", ").append(type.getName());
+        }
+        return names.toString();
     }
 
     private static void nested(Class<?> c) {
