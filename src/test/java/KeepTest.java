@@ -220,9 +220,9 @@ public final class KeepTest {
 
     /** Rows rise figure by figure, the first test leading; the same test may stand in a row again. */
     private static void siftInOrder() {
-        RiverChoice x = new RiverChoice();
-        x.man(1, 1, 1, 1, 1, 1);
         for (int t = 0; t <= 60; t++) {
+            RiverChoice x = new RiverChoice();
+            x.man(1, 1, 1, 1, 1, 1);
             int size = x.sift(0, t, -1);
             long row = 0;
             for (int i = 0; i < size; i++) {
