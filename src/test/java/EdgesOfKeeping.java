@@ -90,7 +90,7 @@ final class EdgesOfKeeping {
     }
 
     private void holdOfSome() {
-        s.sentence(0, "of 60 to the number of MEN: THE FRACTION.");
+        s.sentence(0, "each in TRUST of 60 cases, apart: of 60 to the number of MEN: THE FRACTION.");
         RiverChoice x = Bank.ofKinds(0, 0, 0, 0, 0, 5);
         for (int n = 0; n <= 5; n++) {
             int men = (1 << n) - 1;
@@ -333,7 +333,7 @@ final class EdgesOfKeeping {
     }
 
     private void homeTrust() {
-        s.sentence(0, "any two BROTHERS who both stay have TRUST of t (0 .. 120) or more together.");
+        s.sentence(0, "so that any two BROTHERS who both stay have TRUST of t (0 .. 120) or more together.");
         RiverChoice x = Bank.ofKinds(0, 1);
         s.due("home(120), no brothers", x.home(120), 0);
         x.pair(0, 1);

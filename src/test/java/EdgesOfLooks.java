@@ -41,7 +41,7 @@ final class EdgesOfLooks {
     }
 
     private void setsOfAll() {
-        s.sentence(0, "ALL: sets of SIGNS (bits of 0 to 31) so that just those wear all of these");
+        s.sentence(0, "LOOKS: some MEN (bits) were KEPT. ALL: sets of SIGNS (bits of 0 to 31) so that just those wear all of these");
         s.due("no men: all sets fit", new RiverChoice().looks(0, true, 0), 32);
         s.due("in all of them", new RiverChoice().looks(0, true, 1), 0);
         for (int signs = 0; signs <= 31; signs++) {
@@ -153,7 +153,7 @@ final class EdgesOfLooks {
     private static final int[] TRUSTS = {0, 19, 20, 29, 30, 55};
 
     private void boastPays() {
-        s.sentence(0, "one who laps alone is KEPT (4)");
+        s.sentence(0, "BOAST: two MEN who know WORD may lap (1) or kneel (0): one who laps alone is KEPT (4)");
         for (int a = 0; a < 6; a++) {
             for (int b = 0; b < 6; b++) {
                 RiverChoice x = two(MEN[a], MEN[b]);
@@ -246,7 +246,7 @@ final class EdgesOfLooks {
     }
 
     private void drawnWraps() {
-        s.sentence(0, "X becomes X times 1103515245 and 12345, by 2147483648 what is left over");
+        s.sentence(0, "for each, by numbers, X becomes X times 1103515245 and 12345, by 2147483648 what is left over");
         // 1: 1103527590 is below 2147483648; 2: 2207042835 is above it by 59559187
         RiverChoice x = Bank.ofKinds(0, 1);
         s.due("drawn(2, 1, 1): 38 is below 50", x.drawn(2, 1, 1), 1);

@@ -15,6 +15,7 @@ final class EdgesOfMen {
         callsOfTwoMen();
         callsOfSomeMen();
         weights();
+        weightsAreParts();
         weightsNotAllNone();
         signs();
         brothers();
@@ -126,6 +127,35 @@ final class EdgesOfMen {
             }
             s.badBeyond(0, 9, RiverChoice::new, "man of # of kind " + kind, BAD, (x, w) -> manWith(x, k, w, 1));
             s.badBeyond(0, 9, () -> Bank.men(3), "man of # of kind " + kind + " and none else", BAD, (x, w) -> manWith(x, k, w, 0));
+        }
+    }
+
+    /** Two kinds by 1 to 9 each: he is so likely of either, and weights twice as great tell nothing else. */
+    private void weightsAreParts() {
+        s.sentence(0, "how likely each is of that KIND;");
+        int[] holds = {6, 10, 2, 1, 11, 0};
+        for (int a = 0; a < 6; a++) {
+            for (int b = 0; b < 6; b++) {
+                if (a == b) {
+                    continue;
+                }
+                for (int part = 1; part <= 9; part += 4) {
+                    int[] w = new int[6];
+                    w[a] = part;
+                    w[b] = 9;
+                    RiverChoice x = Bank.one(w[0], w[1], w[2], w[3], w[4], w[5]);
+                    String call = part + " of " + a + ", 9 of " + b;
+                    s.due("trust(0), " + call, x.trust(0), 60 * (part * holds[a] + 9 * holds[b]) / (12 * (part + 9)));
+                    s.due("of(0, 3), " + call, x.of(0, 3), part == 9 ? Math.min(a, b) : b);
+                }
+            }
+        }
+        for (int i = 1; i <= 4; i++) {
+            RiverChoice x = Bank.one(i, 0, 2 * i, 0, i, 0);
+            s.due("trust(0), 1260 by 48, by " + i, x.trust(0), 26);
+            // they become 5, 4 and 10: 60 times 148 by 12 times 19
+            s.due("test(0, 1, true), by " + i, x.test(0, 1, true), 38);
+            s.due("weight(0, 4), by " + i, x.weight(0, 4), 10);
         }
     }
 

@@ -38,7 +38,7 @@ final class EdgesOfState {
     // ---- the terms
 
     private void constants() {
-        s.sentence(0, "public static final int NONE = -1, BAD = -2, NO = -3, FULL = -4;");
+        s.sentence(Sentences.AROUND, "public static final int NONE = -1, BAD = -2, NO = -3, FULL = -4;");
         s.due("NONE", RiverChoice.NONE, -1);
         s.due("BAD", RiverChoice.BAD, -2);
         s.due("NO", RiverChoice.NO, -3);
@@ -46,7 +46,7 @@ final class EdgesOfState {
     }
 
     private void calls() {
-        s.sentence(0, "An object is used for at most 512 calls after it has been made; what later calls answer is free.");
+        s.sentence(Sentences.AROUND, "An object is used for at most 512 calls after it has been made; what later calls answer is free.");
         RiverChoice x = new RiverChoice();
         for (int call = 1; call <= 511; call++) {
             s.due("call " + call, x.trust(0), -2);

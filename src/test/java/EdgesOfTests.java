@@ -16,7 +16,9 @@ final class EdgesOfTests {
     void look() {
         costs();
         lightUsedUp();
+        testsByNumber();
         casesOfAll();
+        kindsUnderPlain();
         boasterByWord();
         veteranHalf();
         spyCases();
@@ -94,8 +96,20 @@ final class EdgesOfTests {
         }
     }
 
+    private void testsByNumber() {
+        s.sentence(0, "TESTS: 0 RIVER, 1 NIGHT, 2 SHOUT;");
+        for (int test = 0; test < 3; test++) {
+            RiverChoice x = Bank.men(3);
+            x.word(1);
+            s.due("cases(3, " + test + ", true)", x.cases(3, test, true), test == 0 ? 11 : 3 - test);
+            s.due("shows(1, " + test + ") of one who knows", x.shows(1, test), test == 0 ? 36 : test == 1 ? 24 : 19);
+            x.test(1, test, true);
+            s.due("who know WORD behind test " + test, x.count(3), test == 0 ? 3 : 1);
+        }
+    }
+
     private void casesOfAll() {
-        s.sentence(0, "in how many of 12 cases one shows it (0 at least, 12 at most), in how many one HOLDS");
+        s.sentence(0, "KINDS, each under the one told, tell in how many of 12 cases one shows it (0 at least, 12 at most), in how many one HOLDS:");
         RiverChoice x = new RiverChoice();
         for (int kind = 0; kind < 6; kind++) {
             for (int what = 0; what < 4; what++) {
@@ -109,8 +123,24 @@ final class EdgesOfTests {
         s.due("the most: a veteran holds", x.cases(4, 3, true), 11);
     }
 
+    private void casesOf(int kind, int... want) {
+        RiverChoice x = new RiverChoice();
+        for (int i = 0; i < 8; i++) {
+            s.due("cases(" + kind + ", " + i / 2 + ", " + (i % 2 == 1) + ")", x.cases(kind, i / 2, i % 2 == 1), want[i / 2]);
+        }
+    }
+
+    private void kindsUnderPlain() {
+        s.sentence(0, "0 PLAIN: 6, 5, 4; 6.");
+        casesOf(0, 6, 5, 4, 6);
+        s.sentence(0, "1 BRAVE (under PLAIN): 3 more than PLAIN; 4 more.");
+        casesOf(1, 6 + 3, 5 + 3, 4 + 3, 6 + 4);
+        s.sentence(0, "2 TIMID (under PLAIN): 3 less; 4 less.");
+        casesOf(2, 6 - 3, 5 - 3, 4 - 3, 6 - 4);
+    }
+
     private void boasterByWord() {
-        s.sentence(0, "at the river 11, if WORD reached him, else as TIMID; 1 less.");
+        s.sentence(0, "3 BOASTER (under TIMID): at the river 11, if WORD reached him, else as TIMID; 1 less.");
         RiverChoice x = new RiverChoice();
         s.due("a boaster at the river, by WORD", x.cases(3, 0, true), 11);
         s.due("a boaster at the river, without", x.cases(3, 0, false), x.cases(2, 0, false));
@@ -121,7 +151,7 @@ final class EdgesOfTests {
     }
 
     private void veteranHalf() {
-        s.sentence(0, "half of BRAVE (cut) at the river (has drunk before), else 2 more; 1 more.");
+        s.sentence(0, "4 VETERAN (under BRAVE): half of BRAVE (cut) at the river (has drunk before), else 2 more; 1 more.");
         RiverChoice x = new RiverChoice();
         for (int word = 0; word < 2; word++) {
             s.due("at the river, 9 by 2", x.cases(4, 0, word == 1), 4);
@@ -132,7 +162,7 @@ final class EdgesOfTests {
     }
 
     private void spyCases() {
-        s.sentence(0, "as BOASTER, but 1 at a shout; 0.");
+        s.sentence(0, "5 SPY (under BOASTER): as BOASTER, but 1 at a shout; 0.");
         RiverChoice x = new RiverChoice();
         for (int word = 0; word < 2; word++) {
             s.due("at the river", x.cases(5, 0, word == 1), word == 1 ? 11 : 3);
@@ -151,7 +181,7 @@ final class EdgesOfTests {
     }
 
     private void timesCases() {
-        s.sentence(0, "each of his WEIGHTS becomes that many times as many cases in which such a one shows it (does not), WORD being as it is");
+        s.sentence(0, "A TEST of a MAN, shown or not: each of his WEIGHTS becomes that many times as many cases in which such a one shows it (does not), WORD being as it is");
         for (int i = 0; i < 6 * 3 * 2 * 2; i++) {
             int kind = i % 6;
             int test = i / 6 % 3;
@@ -218,7 +248,7 @@ final class EdgesOfTests {
     }
 
     private void notHalved() {
-        s.sentence(0, "as long as one is above 999999");
+        s.sentence(0, "all are parted by the greatest number that goes into all of them, and, as long as one is above 999999");
         RiverChoice x = behind(false, new int[] {0, 8, 0, 0, 1, 9}, "2-2-2-1+2-2-2-1-1-1+1+1+1+");
         weights("999936 is not halved", x, 0, 0, 999936, 0, 0, 4375, 778516);
         RiverChoice most = behind(true, new int[] {0, 7, 0, 8, 0, 8}, "2-0-2-2+2+1-2-0+0+1-0+2+2-0+0+2-2-2+0-");
@@ -363,7 +393,7 @@ final class EdgesOfTests {
     }
 
     private void undoDepth() {
-        s.sentence(0, "WEIGHTS, WORD, DAYLIGHT as ahead of the last TEST (8 at most;");
+        s.sentence(0, "UNDO: WEIGHTS, WORD, DAYLIGHT as ahead of the last TEST (8 at most;");
         for (int n = 0; n <= 17; n++) {
             RiverChoice x = Bank.men(2);
             x.pair(0, 1);

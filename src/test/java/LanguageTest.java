@@ -21,6 +21,7 @@ public final class LanguageTest {
     public static void main(String[] args) throws IOException {
         Path path = Path.of("src/main/java/RiverChoice.java");
         String source = Files.readString(path, StandardCharsets.US_ASCII);
+        headings(source);
         source = source.replaceAll("(?s)/\\*.*?\\*/", "").replaceAll("//[^\n]*", "");
         words(source);
         calls(source);
@@ -140,6 +141,27 @@ public final class LanguageTest {
         }
         if (!Modifier.isFinal(RiverChoice.class.getModifiers()) || !Modifier.isPublic(RiverChoice.class.getModifiers())) {
             tell("the class is not public and final");
+        }
+    }
+
+    /** What the interface says ahead of its calls stands ahead of the first of them, and nothing else ahead of the others. */
+    private static void headings(String source) throws IOException {
+        String document = Files.readString(Path.of("../shared/DOC.md"), StandardCharsets.UTF_8);
+        Matcher groups = Pattern.compile("Ahead of the calls (.*) the interface says: (.*)\\.").matcher(document);
+        int found = 0;
+        while (groups.find()) {
+            found++;
+            for (String call : groups.group(1).replaceAll("[`,]", "").split(" ")) {
+                Matcher head = Pattern.compile("(?m)^    public \\w+ " + call + "\\(").matcher(source);
+                String ahead = head.find() ? source.substring(0, head.start()) : "";
+                String last = ahead.substring(ahead.lastIndexOf("// ----") + 1);
+                if (!last.startsWith("/ " + groups.group(2) + "\n")) {
+                    tell("ahead of " + call + " stands not " + groups.group(2));
+                }
+            }
+        }
+        if (found != 5) {
+            tell("headings that the document tells: " + found);
         }
     }
 

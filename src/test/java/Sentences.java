@@ -15,14 +15,19 @@ import java.util.regex.Pattern;
 final class Sentences {
     private static final Path DOCUMENT = Path.of("..", "shared", "DOC.md");
     private static final int PROMISES = 35;
-    /** The number of what the document says outside of its promises: the terms and the words ahead of the calls. */
     static final int TERMS = 0;
+    /** The number of what the document says outside of its terms and promises. */
+    static final int AROUND = PROMISES + 1;
+
+    /** What stands between sentences and promises nothing of its own; LanguageTest looks at what the interface says. */
+    private static final Pattern FRAMES = Pattern.compile("Ahead of the calls [^:]*: ---- [a-z ,]*\\.|={8} 2|={8}|```text|```|`[^`]*`: ");
 
     private static final int[] FAR = {-2147483648, -2147483647, -1073741824, -65536, -256, -128, -64, -32, -10, -3, -2,
         16, 31, 32, 33, 63, 64, 65, 127, 128, 255, 256, 1000000, 65536, 1073741824, 2147483646, 2147483647};
 
-    private final String[] said = new String[PROMISES + 1];
-    private final boolean[] quoted = new boolean[PROMISES + 1];
+    private final String[] said = new String[AROUND + 1];
+    /** What is said and not quoted so far: what was quoted is blank. */
+    private final StringBuilder[] unquoted = new StringBuilder[AROUND + 1];
     private String name = "";
     private int sentences = 0;
     private int asked = 0;
@@ -31,34 +36,41 @@ final class Sentences {
 
     Sentences() throws IOException {
         String document = Files.readString(DOCUMENT, StandardCharsets.UTF_8);
-        Matcher heads = Pattern.compile("(?m)^## (Promise (\\d+):.*|.*)$").matcher(document);
-        int section = TERMS;
+        Matcher heads = Pattern.compile("(?m)^## (?:(Terms)|Promise (\\d+):.*|.*)$").matcher(document);
+        int section = AROUND;
         int start = 0;
         Arrays.fill(said, "");
         while (heads.find()) {
             add(section, document.substring(start, heads.start()));
             start = heads.end();
-            section = heads.group(2) == null ? TERMS : Integer.parseInt(heads.group(2));
+            section = heads.group(1) != null ? TERMS : heads.group(2) == null ? AROUND : Integer.parseInt(heads.group(2));
         }
         add(section, document.substring(start));
+        Arrays.setAll(unquoted, i -> new StringBuilder(said[i]));
     }
 
     private void add(int section, String text) {
         said[section] += text.replaceAll("\\s+", " ") + " ";
     }
 
-    /** The answers that come next are those that this sentence asks for: of a promise, or of the TERMS. */
+    /** The answers that come next are those that this sentence asks for: of a promise, of the TERMS, or AROUND them. */
     void sentence(int promise, String words) {
         if (askedHere == 0) {
             tell("no answer was looked at for " + name);
         }
-        name = (promise == TERMS ? "terms" : "promise " + promise) + ", '" + words + "'";
+        name = titleOf(promise) + ", '" + words + "'";
         if (!said[promise].contains(words)) {
             tell("the document does not say " + name);
         }
-        quoted[promise] = true;
+        for (int at = said[promise].indexOf(words); at >= 0; at = said[promise].indexOf(words, at + 1)) {
+            unquoted[promise].replace(at, at + words.length(), " ".repeat(words.length()));
+        }
         sentences++;
         askedHere = 0;
+    }
+
+    private static String titleOf(int section) {
+        return section == TERMS ? "terms" : section == AROUND ? "around" : "promise " + section;
     }
 
     void due(String call, long got, long want) {
@@ -106,9 +118,11 @@ final class Sentences {
     }
 
     void end() {
-        for (int promise = 1; promise <= PROMISES; promise++) {
-            if (!quoted[promise]) {
-                tell("no sentence of promise " + promise + " is looked at");
+        for (int section = TERMS; section <= PROMISES; section++) {
+            for (String rest : FRAMES.matcher(unquoted[section]).replaceAll("  ").split(" {2,}")) {
+                if (rest.matches(".*\\w.*")) {
+                    tell("of " + titleOf(section) + " nothing looks at '" + rest.trim() + "'");
+                }
             }
         }
         System.out.println(sentences + " sentences, " + asked + " answers, " + wrong + " wrong");
