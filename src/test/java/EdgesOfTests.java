@@ -625,5 +625,11 @@ final class EdgesOfTests {
                 s.due("9 of both, " + a + " and " + b, Bank.one(w[0], w[1], w[2], w[3], w[4], w[5]).of(0, 3), Math.min(a, b));
             }
         }
+        for (int kind = 0; kind < 6; kind++) {
+            RiverChoice x = Bank.ofKinds(kind);
+            x.man(9, 9, 9, 9, 9, 9);
+            s.due("1 of " + kind + ", ahead of one who is 9 of all", x.of(0, 3), kind);
+            s.due("9 of all, behind one who is 1 of " + kind, x.of(1, 3), 0);
+        }
     }
 }
